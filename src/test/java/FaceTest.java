@@ -6,7 +6,7 @@ import java.lang.reflect.Modifier;
 import java.util.Set;
 import java.util.TreeSet;
 
-/** The class shows the document's public face and nothing beside it. */
+/** The class shows the document's public face and nothing beside it, and no name has two meanings. */
 public final class FaceTest {
     private static final Set<String> DUE = Set.of(
         "public static final int PebbleFrame.NONE",
@@ -46,7 +46,23 @@ public final class FaceTest {
             System.out.println("the face is " + found + ", due is " + new TreeSet<>(DUE) + "; shape as due: " + shape);
             System.exit(1);
         }
+        Set<String> shared = namesOf(true);
+        shared.retainAll(namesOf(false));
+        if (!shared.isEmpty()) {
+            System.out.println("private methods bear the names of public ones: " + shared);
+            System.exit(1);
+        }
         System.out.println("the face is as due");
+    }
+
+    private static Set<String> namesOf(boolean isPrivate) {
+        Set<String> names = new TreeSet<>();
+        for (Method method : PebbleFrame.class.getDeclaredMethods()) {
+            if (Modifier.isPrivate(method.getModifiers()) == isPrivate) {
+                names.add(method.getName());
+            }
+        }
+        return names;
     }
 
     private static void note(Set<String> found, Member member, String text) {
